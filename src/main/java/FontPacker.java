@@ -293,7 +293,7 @@ public final class FontPacker {
         /** The lengths that are written are far below 16384: they never need a third byte. */
         void addLong(int number) {
             if (number >= 128) {
-                add(128 + number / 128 % 128);
+                add(128 + number / 128);
             }
             add(number % 128);
         }

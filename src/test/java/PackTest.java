@@ -16,17 +16,13 @@ public final class PackTest {
         writesRowsThatRepeat();
         repeatsAcrossTables();
         writesTheLargest();
-        refusesEmptyContours();
+        Samples.emptyContours(CHECK, FontPacker::pack, 10 + 13);
         CHECK.finish();
     }
 
     private static void writesOneGlyph() {
         FontPacker x = new FontPacker();
-        x.glyph(600);
-        x.contour();
-        x.point(10, 0, true);
-        x.point(10, 300, false);
-        x.point(-500, 300, true);
+        Samples.oneGlyph(x);
         CHECK.answers("one glyph", 23, x::pack);
         int[] want = Check.join(Check.row(119, 50, 2, 64, 10, 9, 65, 4, 2, 11),
                 Check.bits(Check.literal(1, 1, 3, 11, 131, 12, 10, 44, 254, 254, 94)));
@@ -220,7 +216,7 @@ public final class PackTest {
 
     private static void writesTheLargest() {
         FontPacker x = new FontPacker();
-        Largest.fill(x);
+        Samples.largest(x);
         int length = x.pack();
         // 31 for counts, 5 for a point, one less for the first of each glyph: 505; advances 18, tables 100
         list("its head", List.of(x.at(2), x.at(3), x.at(4), x.at(5), x.at(6), x.at(7), x.at(8), x.at(9), x.at(10)),
@@ -229,17 +225,5 @@ public final class PackTest {
         CHECK.answers("it is read", 7, x::read);
         CHECK.answers("and packed again", length, x::pack);
         CHECK.answers("and is plain", 704, x::plain);
-    }
-
-    private static void refusesEmptyContours() {
-        FontPacker x = new FontPacker();
-        x.put(7, 1);
-        x.glyph(1);
-        x.contour();
-        CHECK.badState("an empty contour", x::pack);
-        CHECK.buffer("the buffer is left", x, 7);
-        x.point(1, 1, true);
-        x.contour();
-        CHECK.badState("an empty contour behind another", x::pack);
     }
 }

@@ -11,7 +11,7 @@ public final class PlainTest {
         writesChecks();
         fillsTables();
         writesTheLargest();
-        refusesEmptyContours();
+        Samples.emptyContours(CHECK, FontPacker::plain, 19 + 8 + 8);
         CHECK.finish();
     }
 
@@ -34,11 +34,7 @@ public final class PlainTest {
 
     private static void writesOneGlyph() {
         FontPacker x = new FontPacker();
-        x.glyph(600);
-        x.contour();
-        x.point(10, 0, true);
-        x.point(10, 300, false);
-        x.point(-500, 300, true);
+        Samples.oneGlyph(x);
         x.put(1, 1);
         CHECK.answers("one glyph", 35, x::plain);
         int[] want = {2, 0, 35, 57, 49, 18, 0, 19, 0, 10, 1, 2, 88, 0, 0, 0, 31, 0, 4,
@@ -138,24 +134,9 @@ public final class PlainTest {
 
     private static void writesTheLargest() {
         FontPacker x = new FontPacker();
-        Largest.fill(x);
+        Samples.largest(x);
         CHECK.answers("the largest font", 1 + 63 + 516 + 24 + 100, x::plain);
         CHECK.answers("the length of its outlines", 516, () -> x.at(8) * 256 + x.at(9));
         CHECK.answers("its last byte", 6, () -> x.at(703));
-    }
-
-    private static void refusesEmptyContours() {
-        FontPacker x = new FontPacker();
-        x.put(7, 1);
-        x.glyph(1);
-        x.contour();
-        CHECK.badState("an empty contour", x::plain);
-        CHECK.buffer("the buffer is left", x, 7);
-        x.point(1, 1, true);
-        x.contour();
-        CHECK.badState("an empty contour behind another", x::plain);
-        x.point(1, 1, true);
-        x.glyph(2);
-        CHECK.answers("a glyph without contours", 19 + 8 + 8, x::plain);
     }
 }

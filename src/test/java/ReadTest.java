@@ -75,7 +75,7 @@ public final class ReadTest {
         CHECK.answers("table 3 is gone", 1, () -> table.table(3, 0, 1));
 
         FontPacker all = new FontPacker();
-        Largest.fill(all);
+        Samples.largest(all);
         all.pack();
         FontPacker copy = read("the largest", 7, Check.bytesOf(all));
         all.plain();
@@ -211,6 +211,7 @@ public final class ReadTest {
         stageOne("2 with 64", packed(Check.row(119, 50, 1, 66, 1, 1), 9));
         stageOne("2 with 64, and two lengths", packed(Check.row(119, 50, 1, 66, 1, 1, 1), 9));
         stageOne("2 with 128", packed(Check.row(119, 50, 1, 130, 1, 1), 9));
+        stageOne("7 without bytes in the stream", 119, 50, 1, 7, 1, 0);
         stageOne("7", packed(Check.row(119, 50, 1, 7, 1, 1), 9));
         stageOne("the same number twice", packed(Check.row(119, 50, 2, 2, 1, 2, 1, 2), 9, 9));
         stageOne("falling numbers", packed(Check.row(119, 50, 2, 3, 1, 2, 1, 2), 9, 9));
