@@ -1,4 +1,7 @@
+import java.util.ArrayList;
 import java.util.Arrays;
+import java.util.List;
+import java.util.function.Consumer;
 
 /** Counts the answers of a test that are not the ones that are due, and tells them. */
 final class Check {
@@ -6,12 +9,38 @@ final class Check {
         long run();
     }
 
+    /** With the calls that build an object this stays below the 512 that an object is good for. */
+    private static final int ASKED_OF_ONE = 256;
+
     private int wrong = 0;
     private int asked = 0;
+    private String sentence = "";
+
+    /** What this test tells belongs to a sentence of the document: its section, and its words. */
+    void sentence(String section, String words, Runnable test) {
+        int before = asked;
+        sentence = section + ", '" + words + "': ";
+        try {
+            test.run();
+        } catch (RuntimeException e) {
+            tell("the test ended with " + e);
+        }
+        if (asked == before) {
+            tell("nothing was asked");
+        }
+        sentence = "";
+    }
 
     void due(String what, long got, long want) {
         asked++;
         if (got != want) {
+            tell(what + " answered " + got + ", due is " + want);
+        }
+    }
+
+    void same(String what, Object got, Object want) {
+        asked++;
+        if (!got.equals(want)) {
             tell(what + " answered " + got + ", due is " + want);
         }
     }
@@ -36,16 +65,27 @@ final class Check {
         }
     }
 
-    void badArgument(String what, Call call) {
-        fails(what, IllegalArgumentException.class, call);
+    /** The call throws this behind the calls that build the object, and changes nothing at all. */
+    private void refuses(Class<? extends RuntimeException> kind, String what, Consumer<FontPacker> build,
+            Consumer<FontPacker> call) {
+        fails(what, kind, () -> {
+            call.accept(made(build));
+            return 0;
+        });
+        same(what + " has changed something: it", stateBehind(build.andThen(x -> quietly(x, call))),
+                stateBehind(build));
     }
 
-    void badState(String what, Call call) {
-        fails(what, IllegalStateException.class, call);
+    void badArgument(String what, Consumer<FontPacker> build, Consumer<FontPacker> call) {
+        refuses(IllegalArgumentException.class, what, build, call);
     }
 
-    void badIndex(String what, Call call) {
-        fails(what, IndexOutOfBoundsException.class, call);
+    void badState(String what, Consumer<FontPacker> build, Consumer<FontPacker> call) {
+        refuses(IllegalStateException.class, what, build, call);
+    }
+
+    void badIndex(String what, Consumer<FontPacker> build, Consumer<FontPacker> call) {
+        refuses(IndexOutOfBoundsException.class, what, build, call);
     }
 
     void buffer(String what, FontPacker packer, int... want) {
@@ -56,22 +96,17 @@ final class Check {
         }
     }
 
-    /** The reading of these bytes fails in this stage. */
-    void failsInStage(String what, int stage, int... bytes) {
-        FontPacker packer = new FontPacker();
-        packer.table(4, 77, 1);
-        packer.glyph(9);
-        load(packer, bytes);
-        badArgument(what, packer::read);
-        due(what + ": stage", packer.stage(), stage);
-        buffer(what, packer, bytes);
-        answers(what + ": glyphs are left", 1, () -> packer.count(-1));
-        answers(what + ": tables are left", 2, () -> packer.table(4, 78, 1));
+    /** The bytes of the buffer from a place on. */
+    void bytes(String what, FontPacker packer, int place, int... want) {
+        for (int k = 0; k < want.length; k++) {
+            int at = place + k;
+            answers(what + ": byte " + at, want[k], () -> packer.at(at));
+        }
     }
 
     void tell(String text) {
         wrong++;
-        System.out.println(text);
+        System.out.println(sentence + text);
     }
 
     void finish() {
@@ -79,6 +114,51 @@ final class Check {
         if (wrong > 0 || asked == 0) {
             System.exit(1);
         }
+    }
+
+    static FontPacker made(Consumer<FontPacker> calls) {
+        FontPacker packer = new FontPacker();
+        calls.accept(packer);
+        return packer;
+    }
+
+    private static void quietly(FontPacker packer, Consumer<FontPacker> call) {
+        try {
+            call.accept(packer);
+        } catch (RuntimeException e) {
+            // Only what is left behind the call is asked.
+        }
+    }
+
+    /** All that an object tells behind these calls. */
+    static String stateBehind(Consumer<FontPacker> calls) {
+        return "stage " + made(calls).stage() + ", buffer " + bufferBehind(calls) + ", " + fontBehind(calls);
+    }
+
+    /** The plain font has all of a font; while a contour is empty, it gets a point for that. */
+    static String fontBehind(Consumer<FontPacker> calls) {
+        FontPacker packer = made(calls);
+        try {
+            packer.plain();
+            return "font " + bufferBehind(calls.andThen(FontPacker::plain));
+        } catch (IllegalStateException e) {
+            Consumer<FontPacker> point = x -> x.point(1, 2, true);
+            return "empty contour, font " + bufferBehind(calls.andThen(point).andThen(FontPacker::plain));
+        }
+    }
+
+    /** Each part is asked of an object of its own, as none is good for as many calls as all of them. */
+    static List<Integer> bufferBehind(Consumer<FontPacker> calls) {
+        List<Integer> bytes = new ArrayList<>();
+        FontPacker packer = made(calls);
+        int length = packer.at(-1);
+        for (int k = 0; k < length; k++) {
+            if (k > 0 && k % ASKED_OF_ONE == 0) {
+                packer = made(calls);
+            }
+            bytes.add(packer.at(k));
+        }
+        return bytes;
     }
 
     static int[] bytesOf(FontPacker packer) {
