@@ -386,8 +386,8 @@ public final class FontPacker {
         private final Row ons = new Row(MOST_POINTS);
         private int advance = 0;
 
-        void begin() {
-            advance = 0;
+        void begin(int itsAdvance) {
+            advance = itsAdvance;
             sizes.makeEmpty();
             xs.makeEmpty();
             ys.makeEmpty();
@@ -533,8 +533,7 @@ public final class FontPacker {
         int addGlyph(int advance) {
             if (glyphCount < glyphs.length) {
                 glyphCount++;
-                latestGlyph().begin();
-                latestGlyph().changeAdvance(advance);
+                latestGlyph().begin(advance);
             }
             return glyphCount - 1;
         }

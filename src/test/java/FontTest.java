@@ -1,3 +1,4 @@
+import java.util.List;
 import java.util.function.Consumer;
 
 /** Promises 1 to 6, 15 and 16: a new object, glyph, contour, point, table, clear, count, outline. */
@@ -67,6 +68,7 @@ public final class FontTest {
 
     private static void clear() {
         CHECK.sentence("Promise 6", "The font has no glyphs .. any more", FontTest::clearsGlyphs);
+        CHECK.sentence("Promise 6", "no glyphs and tables any more", FontTest::leavesNothingBehind);
         CHECK.sentence("Promise 6", "and tables any more", FontTest::clearsTables);
         CHECK.sentence("Promise 6", "The font", FontTest::clearsTheFontAlone);
     }
@@ -83,7 +85,8 @@ public final class FontTest {
         CHECK.sentence("Promise 16", "there is no such glyph", FontTest::refusesGlyphsOfOutlines);
         CHECK.sentence("Promise 16", "or what", FontTest::refusesWhat);
         CHECK.sentence("Promise 16", "no such point", FontTest::refusesPointsOfOutlines);
-        CHECK.sentence("Promise 16", "IllegalArgumentException: there is no such glyph or what; IndexOutOfBoundsException",
+        CHECK.sentence("Promise 16",
+                "IllegalArgumentException: there is no such glyph or what; IndexOutOfBoundsException",
                 FontTest::looksAtGlyphAndWhatFirst);
     }
 
@@ -564,6 +567,27 @@ public final class FontTest {
             y.clear();
             Samples.largest(y);
         }), Check.fontBehind(Samples::largest));
+    }
+
+    private static void leavesNothingBehind() {
+        Consumer<FontPacker> other = x -> {
+            x.table(3, 7, 1);
+            x.glyph(1);
+            x.contour();
+            x.point(5, 6, false);
+            x.point(-7, 8, true);
+            x.glyph(0);
+        };
+        for (Consumer<FontPacker> before : List.<Consumer<FontPacker>>of(Samples::largest, Samples::oneGlyph,
+                Samples::emptyContour, Samples::emptyContourBehindAnother)) {
+            Consumer<FontPacker> build = before.andThen(FontPacker::clear).andThen(other);
+            CHECK.same("another font", Check.fontBehind(build), Check.fontBehind(other));
+            FontPacker x = Check.made(build);
+            CHECK.answers("its x", 5, () -> x.outline(0, 0, 0));
+            CHECK.answers("its y", 6, () -> x.outline(0, 0, 1));
+            CHECK.answers("whether it is on", 0, () -> x.outline(0, 0, 2));
+            CHECK.answers("its contour", 0, () -> x.outline(0, 1, 3));
+        }
     }
 
     private static void clearsTables() {

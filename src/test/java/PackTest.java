@@ -156,12 +156,25 @@ public final class PackTest {
                 CHECK.same("a stream of " + length[0], font.get(8 + 2 * 5 + k), length[k]);
             }
         }
+        int[][] longer = {{254, 129, 126}, {255, 129, 127}, {256, 130, 0}};
+        for (int[] length : longer) {
+            List<Integer> font = packedOf(x -> longerStream(x, length[0] - 176));
+            // The length of table 0 in the stream, which has 171 bytes, has two bytes as well.
+            CHECK.same("a stream of " + length[0], font.subList(18, 20), List.of(length[1], length[2]));
+        }
         List<Integer> outlines = packedOf(PackTest::outlinesOf128);
         CHECK.same("outlines of 128", outlines.subList(3, 6), List.of(64, 129, 0));
         List<Integer> largest = packedOf(Samples::largest);
         CHECK.same("outlines of 516, and of 505 in the stream", largest.subList(3, 8),
                 List.of(64, 128 + 4, 4, 128 + 3, 505 - 384));
         CHECK.same("a stream of 623", largest.subList(21, 23), List.of(128 + 4, 623 - 512));
+    }
+
+    /** Five glyphs with all their points at 0, 0, and bytes in tables 2 .. 5: the stream has 176 + bytes. */
+    private static void longerStream(FontPacker x, int bytes) {
+        for (int g = 0; g < 5; g++) {
+            streamOfLength(x, 16, g == 0 ? bytes : 0);
+        }
     }
 
     /** Two glyphs of 62 plain bytes and one of 4. */

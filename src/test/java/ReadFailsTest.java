@@ -164,6 +164,8 @@ public final class ReadFailsTest {
             fails("table " + t, 1, PackedBytes.packed(Check.row(119, 50, 1, t, 1, 1), 9));
         }
         fails("7 without bytes in the stream", 1, 119, 50, 1, 7, 1, 0);
+        fails("7 with two lengths, and no stream", 1, 119, 50, 1, 7, 1, 0, 0);
+        fails("7 with no length, and no stream", 1, 119, 50, 1, 7, 0, 0, 0);
         fails("7 behind 6", 1, PackedBytes.packed(Check.row(119, 50, 2, 6, 1, 7, 1, 2), 9, 9));
     }
 
@@ -248,6 +250,10 @@ public final class ReadFailsTest {
         fails("by one behind four", 2, PackedBytes.table(7, Check.literal(1, 2, 3, 4) + "1 1 00101"));
         reads("not beyond it behind four", 1, PackedBytes.table(7, Check.literal(1, 2, 3, 4) + "1 1 00100"));
         fails("by far", 2, PackedBytes.table(4, Check.literal(9) + "1 1 " + Reference.gamma(65535)));
+        fails("at once, and then all bytes", 2, PackedBytes.table(1, "1 1 1" + Check.literal(9)));
+        fails("at once, and then some bytes", 2, PackedBytes.table(2, "1 1 1" + Check.literal(9)));
+        fails("by one, and then all bytes", 2,
+                PackedBytes.table(4, Check.literal(9) + "1 1 010" + Check.literal(1, 2, 3)));
     }
 
     /** A number of so many bits and 1 is 1 again where only these bits are kept. */
@@ -265,6 +271,8 @@ public final class ReadFailsTest {
         }
         fails("an n of 65536", 2, PackedBytes.table(4, Check.literal(9) + "1" + Reference.gamma(65536) + "1"));
         fails("a d of 65536", 2, PackedBytes.table(4, Check.literal(9) + "1 1" + Reference.gamma(65536)));
+        fails("sixteen zeros for an n", 2, PackedBytes.table(3, Check.literal(9) + "1" + "0".repeat(16) + "1"));
+        fails("sixteen zeros for a d", 2, PackedBytes.table(4, Check.literal(9) + "1 1" + "0".repeat(16) + "1"));
         fails("zeros without end", 2, PackedBytes.table(4, Check.literal(9) + "1" + "0".repeat(400)));
     }
 
@@ -274,6 +282,8 @@ public final class ReadFailsTest {
         reads("none", 1, PackedBytes.table(4, Check.literal(9) + "1 1 1"));
         fails("one behind a row", 2, PackedBytes.table(6, Check.literal(9) + "1 1 1 1 1 1"));
         reads("none behind a row", 1, PackedBytes.table(7, Check.literal(9) + "1 1 1 1 1 1"));
+        fails("one, and then others", 2, PackedBytes.table(4, Check.literal(9) + "1 010 1" + Check.literal(1, 2)));
+        fails("one, and then all others", 2, PackedBytes.table(4, Check.literal(9) + "1 010 1" + Check.literal(1, 2, 3)));
         fails("many", 2, PackedBytes.table(4, Check.literal(9) + "1" + Reference.gamma(32768) + "1"));
         fails("up to 1001", 2, PackedBytes.table(20, Check.literal(9) + "1" + Reference.gamma(998) + "1"));
     }
@@ -309,6 +319,8 @@ public final class ReadFailsTest {
         findsInTables("all contours", Check.row(1), 7);
         findsInTables("one glyph's contours", Check.row(2, 0), 1, 1);
         findsInTables("contours, with advances that would do", Check.row(2), 0, 0);
+        fails("all but one glyph's", 3, PackedBytes.glyphs(0, 4, Check.row(2, 0), 7));
+        fails("all but five glyphs'", 3, PackedBytes.glyphs(0, 20, Check.row(6, 0, 0, 0, 0, 0), 1, 2, 3, 4, 5));
         findsInTables("all sizes", Check.row(1, 1), 7);
         findsInTables("one size", Check.row(1, 2, 1), 7);
         findsInTables("the end of a size", Check.row(1, 1, 253, 0), 7);
@@ -347,6 +359,8 @@ public final class ReadFailsTest {
     private static void findsTooManyContours() {
         reads("four", 2, PackedBytes.glyphs(8, 4, Check.row(1, 4, 1, 1, 1, 1, 1, 1, 1, 1, 0, 0, 0, 0), 7));
         findsInTables("five", Check.row(1, 5, 1, 1, 1, 1, 1, 1, 1, 1, 1, 1, 0, 0, 0, 0, 0), 7);
+        fails("five without points", 3, PackedBytes.glyphs(0, 0, Check.row(1, 5)));
+        fails("five without points in the second glyph", 3, PackedBytes.glyphs(0, 4, Check.row(2, 0, 5), 7));
         findsInTables("five in the second glyph",
                 Check.row(2, 0, 5, 1, 1, 1, 1, 1, 1, 1, 1, 1, 1, 0, 0, 0, 0, 0), 7, 7);
         findsInTables("255", Check.row(1, 255, 1, 1, 0), 7);

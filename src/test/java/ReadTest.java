@@ -1,11 +1,14 @@
 import java.util.Arrays;
+import java.util.function.Consumer;
 
 /** Promises 9 and 10, and what reading takes beside that which is written. */
 public final class ReadTest {
     private static final Check CHECK = new Check();
 
     public static void main(String[] args) {
-        CHECK.sentence("Promise 9", "Reads the buffer as a packed font, which the font becomes", ReadTest::becomesTheFont);
+        CHECK.sentence("Promise 9", "Reads the buffer as a packed font, which the font becomes",
+                ReadTest::becomesTheFont);
+        CHECK.sentence("Promise 9", "which the font becomes", ReadTest::becomesOneFontAfterAnother);
         CHECK.sentence("Promise 9", "how many tables it has", ReadTest::tellsTables);
         CHECK.sentence("Promise 9", "that fails", ReadTest::refuses);
         CHECK.sentence("Promise 10", "The stage 1 .. 4 in which the latest read() failed", ReadTest::tellsTheStage);
@@ -88,6 +91,53 @@ public final class ReadTest {
         outline("twice", twice, 0, Check.row(3, 4, 1, 0));
     }
 
+    private static void readPacked(FontPacker x, Consumer<FontPacker> build) {
+        x.clear();
+        build.accept(x);
+        x.pack();
+        x.read();
+    }
+
+    /** What was read before leaves nothing behind, and what fails behind it changes nothing. */
+    private static void becomesOneFontAfterAnother() {
+        Consumer<FontPacker> other = x -> {
+            x.glyph(3);
+            x.contour();
+            x.point(-8, -9, false);
+            x.table(6, 5, 1);
+        };
+        String want = Check.fontBehind(other);
+        CHECK.same("behind a larger one", Check.fontBehind(x -> {
+            readPacked(x, Samples::largest);
+            readPacked(x, other);
+        }), want);
+        CHECK.same("behind two", Check.fontBehind(x -> {
+            readPacked(x, Samples::oneGlyph);
+            readPacked(x, Samples::something);
+            readPacked(x, other);
+        }), want);
+        CHECK.same("none behind a larger one", Check.fontBehind(x -> {
+            readPacked(x, Samples::largest);
+            readPacked(x, Samples::nothing);
+        }), Check.fontBehind(Samples::nothing));
+        CHECK.same("tables behind glyphs", Check.fontBehind(x -> {
+            readPacked(x, Samples::oneGlyph);
+            readPacked(x, y -> y.table(2, 1, 1));
+        }), Check.fontBehind(x -> x.table(2, 1, 1)));
+        for (int[] bytes : new int[][] {{}, {119, 50, 0, 0, 0}, PackedBytes.glyphs(0, 4, Check.row(1, 5), 7),
+            PackedBytes.glyphs(1, 4, Check.row(1, 0), 7)}) {
+            CHECK.same("a failure behind it", Check.fontBehind(x -> {
+                readPacked(x, other);
+                fail(x, bytes);
+            }), want);
+        }
+    }
+
+    private static void fail(FontPacker x, int... bytes) {
+        Check.load(x, bytes);
+        CHECK.fails("read", IllegalArgumentException.class, x::read);
+    }
+
     private static void tellsTables() {
         FontPacker x = new FontPacker();
         int want = 0;
@@ -125,8 +175,7 @@ public final class ReadTest {
     }
 
     private static void fail(FontPacker x, String what, int stage, int... bytes) {
-        Check.load(x, bytes);
-        CHECK.fails(what, IllegalArgumentException.class, x::read);
+        fail(x, bytes);
         CHECK.answers(what + ": stage", stage, x::stage);
     }
 
